@@ -217,12 +217,10 @@ public final class EditMoves {
 
         void read(Line line, int currency) {
             forget();
-            if (!split(line, currency)) {
-                return;
-            }
-            if (isOfText()) {
+            boolean ofSigns = split(line, currency);
+            if (ofSigns && isOfText()) {
                 kind = OF_TEXT;
-            } else if (isOfNumber(currency)) {
+            } else if (ofSigns && isOfNumber(currency)) {
                 kind = OF_NUMBER;
             } else {
                 forget();
@@ -264,7 +262,6 @@ public final class EditMoves {
         }
 
         private boolean split(Line line, int currency) {
-            cursor = 0;
             for (int run = 0; run < signs.length && cursor < line.length; run++) {
                 int sign = takeSign(line, currency);
                 int count = takeCount(line);

@@ -16,6 +16,7 @@ public final class PromisesTest {
         editByStrings();
         editByFloats();
         editZero();
+        editAgain();
         editRefused();
         editText();
         at();
@@ -332,6 +333,29 @@ public final class PromisesTest {
         shown("ZZ", 100, 0, "  ");
     }
 
+    /** Nothing of an earlier picture or edit may be left in a later one of the same object. */
+    private static void editAgain() {
+        String[][] rows = {{"$$9.99", " $5.00"}, {"ZZ9", "  5"}, {"**9", "**5"}, {"9-", "5 "}, {"---", "  5"}, {"+9", "+5"}, {"99.9", "05.0"},
+            {"ZZ.Z", " 5.0"}, {"$9", "$5"}, {"99", "05"}, {"Z9", " 5"}, {"+9,9", "+0,5"}};
+        for (String[] first : rows) {
+            for (String[] second : rows) {
+                EditMoves x = with(first[0]);
+                x.value(5, 0);
+                x.edit();
+                tell(x, second[0]);
+                x.edit();
+                due(second[0] + " behind " + first[0], result(x), second[1]);
+                tell(x, "99");
+                due("told(2) behind " + second[0], x.told(2), 0);
+                tell(x, "X");
+                due("told(1) of a text behind " + second[0], x.told(1), 0);
+                due("told(4) of a text behind " + second[0], x.told(4), 0);
+                tell(x, "Z9Q");
+                due("told(3) of none behind " + second[0], x.told(3), 0);
+            }
+        }
+    }
+
     private static void editRefused() {
         EditMoves x = with("99");
         x.value(12, 0);
@@ -405,6 +429,8 @@ public final class PromisesTest {
         readBack("9DB", -5, 0, -5);
         readBack("9CR", 5, 0, 5);
         readBack("909", 12, 0, 12);
+        readBack("B9B9/9,", 123, 0, 123);
+        readBack("$9.9-", -12, 1, -12);
         readBack("0Z0Z9", 2, 0, 2);
         readBack("**.**", 0, 0, 0);
         readBack("**.**", 5, 2, 5);
@@ -430,6 +456,16 @@ public final class PromisesTest {
         x.edit();
         due("back of one too large", x.back(), 0);
         due("number stays", x.number(), -42L);
+        x.value(7, 0);
+        x.edit();
+        x.value(77, 0);
+        x.edit();
+        due("back of one too large, behind a number", x.back(), 0);
+        x.value(7, 0);
+        x.edit();
+        tell(x, "Q");
+        x.edit();
+        due("back of none, behind a number", x.back(), 0);
     }
 
     private static void number() {
@@ -580,6 +616,7 @@ public final class PromisesTest {
         toldAll("$$,$$9.99CR", 1, 4, 2, 11, 0);
         toldAll("+ZZ,ZZV9", 1, 4, 1, 7, 0);
         toldAll("ZZ.ZZ", 1, 2, 2, 5, 1);
+        toldAll("99.99", 1, 2, 2, 5, 0);
         toldAll("++.++", 1, 1, 2, 5, 1);
         toldAll(".99", 1, 0, 2, 3, 0);
         toldAll("Z.9", 1, 1, 1, 3, 0);
@@ -593,6 +630,11 @@ public final class PromisesTest {
             due("told(" + what + ")", with("9").told(what), EditMoves.NONE);
             due("told(" + what + ") of none", with("Q").told(what), EditMoves.NONE);
         }
+        EditMoves y = with("Z.Z");
+        due("told(4) ahead of a text", y.told(4), 1);
+        tell(y, "X");
+        due("told(2) of a text behind a number", y.told(2), 0);
+        due("told(4) of a text behind a number", y.told(4), 0);
         EditMoves x = with("ZZ");
         x.edit();
         due("told leaves the result", x.told(0) + result(x), "1  ");

@@ -6,7 +6,7 @@ import java.util.Random;
  * regular expressions, so that a slip in one of the two shows.
  */
 public final class SecondReadingTest {
-    private static final int RUNS = 4000;
+    private static final int RUNS = 2000;
     private static final int CALLS = 512;
     private static final String[] WHOLE = {"9", "Z", "*", "+", "-", "$", "B", "0", "/", ",", ".", "V", "X", "CR", "DB", "(2)", "(12)", "(0)",
         "#", "z", "v", "x", "b", "cr", "Q", "(", "1", ")"};
