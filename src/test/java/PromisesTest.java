@@ -335,8 +335,8 @@ public final class PromisesTest {
 
     /** Nothing of an earlier picture or edit may be left in a later one of the same object. */
     private static void editAgain() {
-        String[][] rows = {{"$$9.99", " $5.00"}, {"ZZ9", "  5"}, {"**9", "**5"}, {"9-", "5 "}, {"---", "  5"}, {"+9", "+5"}, {"99.9", "05.0"},
-            {"ZZ.Z", " 5.0"}, {"$9", "$5"}, {"99", "05"}, {"Z9", " 5"}, {"+9,9", "+0,5"}};
+        String[][] rows = {{"$$9.99", " $5.00"}, {"ZZ9", "  5"}, {"**9", "**5"}, {"9-", "5 "}, {"---", "  5"}, {"+9", "+5"},
+            {"99.9", "05.0"}, {"ZZ.Z", " 5.0"}, {"$9", "$5"}, {"99", "05"}, {"Z9", " 5"}, {"+9,9", "+0,5"}};
         for (String[] first : rows) {
             for (String[] second : rows) {
                 EditMoves x = with(first[0]);

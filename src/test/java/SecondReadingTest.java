@@ -6,10 +6,12 @@ import java.util.Random;
  * regular expressions, so that a slip in one of the two shows.
  */
 public final class SecondReadingTest {
-    private static final int RUNS = 2000;
+    private static final int RUNS = 3000;
     private static final int CALLS = 512;
-    private static final String[] WHOLE = {"9", "Z", "*", "+", "-", "$", "B", "0", "/", ",", ".", "V", "X", "CR", "DB", "(2)", "(12)", "(0)",
-        "#", "z", "v", "x", "b", "cr", "Q", "(", "1", ")"};
+    /** A picture of 60 signs told, and one of 200 places edited and looked at. */
+    private static final int DEAREST_ROUND = 280;
+    private static final String[] WHOLE = {"9", "Z", "*", "+", "-", "$", "B", "0", "/", ",", ".", "V", "X", "CR", "DB", "(2)", "(12)",
+        "(0)", "#", "z", "v", "x", "b", "cr", "Q", "(", "1", ")"};
     private static final String[] PARTS_AHEAD = {"", "+", "-", "$", "+$", "-$", "B", "+,", "$/", "0"};
     private static final String[] STRINGS = {"", "ZZ", "Z,ZZ", "***", "*,*", "++", "+,++", "--", "-B-,-", "$$", "$,$$", "$(4)", "Z(3)0Z"};
     private static final String[] NINES = {"", "", "9", "99", ",9", "/9B9", "9(3)"};
@@ -43,7 +45,7 @@ public final class SecondReadingTest {
         EditMoves x = new EditMoves();
         Reading y = new Reading();
         int calls = 0;
-        while (calls < CALLS - 80) {
+        while (calls < CALLS - DEAREST_ROUND) {
             switch (random.nextInt(8)) {
                 case 0: case 1: case 2: calls += tellPicture(x, y, random); break;
                 case 3: calls += tellText(x, y, random); break;
@@ -55,7 +57,7 @@ public final class SecondReadingTest {
             v = random.nextInt(6) == 0 ? 0 : random.nextInt(4) == 0 ? v / 1000 * 1000 : v;
             due(y, "value", x.value(v, scale), y.value(v, scale));
             compare(x, y, random);
-            calls += 12;
+            calls += 12 + y.result.length() + 2;
         }
     }
 
