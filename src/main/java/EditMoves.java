@@ -5,6 +5,7 @@ public final class EditMoves {
     private static final int TOO_LARGE = -1;
     private static final int NO_PICTURE = -2;
     private static final int LAST_CHARACTER = 126;
+    private static final int NEVER_SIGN = 127;
     private static final int LARGEST_SCALE = 18;
     private static final String NEVER_CURRENCY = "*+-,./()";
 
@@ -31,8 +32,9 @@ public final class EditMoves {
     public void picture(int c) {
         if (c == 0) {
             pictureLine.clear();
-        } else if (c > 0 && c <= LAST_CHARACTER) {
-            pictureLine.add(c);
+        } else {
+            // What is no sign is not lost: it stands in the text, which is no picture then.
+            pictureLine.add(c > 0 && c <= LAST_CHARACTER ? c : NEVER_SIGN);
         }
     }
 

@@ -113,13 +113,10 @@ public final class PromisesTest {
     }
 
     private static void picture() {
-        EditMoves x = with("9");
-        for (int c : new int[] {-1, 127, 128, 256 + '9', Integer.MIN_VALUE, Integer.MAX_VALUE}) {
-            x.picture(c);
+        for (int c : new int[] {-1, 1, 31, 127, 128, 256 + '9', 65536 + '9', -65536 + '9', Integer.MIN_VALUE, Integer.MAX_VALUE}) {
+            otherThanSigns(c);
         }
-        due("picture with no signs", x.told(3), 1);
-        x.picture(1);
-        due("picture with code 1", x.told(0), 0);
+        EditMoves x = new EditMoves();
         tell(x, "9" + "B".repeat(58) + "9Q");
         due("picture of 60, the 61st lost", x.told(0), 1);
         due("places of 60", x.told(3), 60);
@@ -141,6 +138,38 @@ public final class PromisesTest {
         kind("9CB", 0);
         kind("9DR", 0);
         kind("~9", 0);
+    }
+
+    /** What is no sign comes behind the text all the same, and stays until the text is empty. */
+    private static void otherThanSigns(int c) {
+        EditMoves x = with("9");
+        x.edit();
+        x.picture(c);
+        due("edit with " + c + " behind", x.edit(), -2);
+        due("no result with " + c, x.at(0), -1);
+        x.picture('9');
+        for (int what = 0; what < 5; what++) {
+            due("told with " + c + " between", x.told(what), 0);
+        }
+        x.picture(0);
+        due("emptied of " + c, x.told(0), 0);
+        x.picture('9');
+        due("begun anew behind " + c, x.edit(), 1);
+        x.picture(0);
+        x.picture(c);
+        x.picture('X');
+        due("edit with " + c + " ahead", x.edit(), -2);
+        tell(x, "9(");
+        x.picture(c);
+        x.picture(')');
+        due("count of " + c, x.told(0), 0);
+        tell(x, "9" + "B".repeat(59));
+        x.picture(c);
+        due(c + " as the 61st is lost", x.edit(), 60);
+        tell(x, "9" + "B".repeat(58));
+        x.picture(c);
+        x.picture('9');
+        due(c + " as the 60th is not lost", x.edit(), -2);
     }
 
     private static void counts() {

@@ -81,10 +81,17 @@ public final class SecondReadingTest {
         String told = all.toString();
         for (int i = 0; i < told.length(); i++) {
             int c = told.charAt(i) == '$' && random.nextInt(9) != 0 ? y.currency : told.charAt(i);
+            c = random.nextInt(200) == 0 ? pickOther(random) : c;
             x.picture(c);
-            y.picture += y.picture.length() < 60 ? String.valueOf((char) c) : "";
+            y.picture += y.picture.length() < 60 ? c >= 1 && c <= 126 ? String.valueOf((char) c) : "?" : "";
         }
         return told.length() + 1;
+    }
+
+    /** None of these is 0: the second reading writes them as a question mark, which is no sign either. */
+    private static int pickOther(Random random) {
+        int c = random.nextInt();
+        return random.nextBoolean() ? -1 - random.nextInt(200) : c >= 0 && c <= 126 ? 127 : c;
     }
 
     private static int tellText(EditMoves x, Reading y, Random random) {
