@@ -72,6 +72,7 @@ public final class BoundariesTest {
         editTwoHundred();
         atBounds();
         backReads();
+        backBehindLonger();
         backRefused();
         numberLatest();
     }
@@ -607,12 +608,26 @@ public final class BoundariesTest {
             x.picture(c);
             due("edit() with " + c + " as the 61st", x.edit(), 60);
         }
+        othersBesideEachCurrency();
         EditMoves least = with("9");
         least.picture(1);
         due("told(0) with 1", least.told(0), 0);
         EditMoves most = with("~9");
         most.currency(126, false);
         due("told(0) with 126 as the currency sign", most.told(0), 1);
+    }
+
+    /** However others are held inside, no currency sign may be taken for one of them. */
+    private static void othersBesideEachCurrency() {
+        for (int currency = 33; currency <= 126; currency++) {
+            for (int c : new int[] {-1, 127, 128, LOWEST, HIGHEST, currency + 256, currency + 65536, currency - 65536}) {
+                EditMoves x = new EditMoves();
+                x.currency(currency, false);
+                x.picture(c);
+                x.picture('9');
+                due("told(0) with " + c + " and the currency sign " + currency, x.told(0), 0);
+            }
+        }
     }
 
     private static void pictureEmptied() {
@@ -835,6 +850,20 @@ public final class BoundariesTest {
         x.edit();
         due("back() of blanks", x.back(), 1);
         due("number() of blanks", x.number(), 0L);
+    }
+
+    private static void backBehindLonger() {
+        read("The result of a number is read back");
+        for (String longer : new String[] {"9-", "9+", "9CR", "9DB", "999", "9-/"}) {
+            EditMoves x = with(longer);
+            x.value(-777, 0);
+            x.edit();
+            tell(x, "9");
+            x.value(5, 0);
+            x.edit();
+            x.back();
+            due("number() of 5 behind a result by " + longer, x.number(), 5L);
+        }
     }
 
     private static void backRefused() {
